@@ -449,6 +449,15 @@ public final class MillBoats {
             int rise = ys[i] - ys[i - 1];
             return ys[i - 1] + Math.floorDiv(rise * (x - xs[i - 1]), run);
         }
+
+        /** The greatest VALUE from 0 to x. */
+        int topUpTo(int x) {
+            int top = Math.max(at(0), at(x));
+            for (int i = 0; i < size && xs[i] <= x; i++) {
+                top = Math.max(top, ys[i]);
+            }
+            return top;
+        }
     }
 
     /** What a MILL is and has done; where it lies is kept by the River. */
@@ -564,6 +573,15 @@ public final class MillBoats {
                 return 0;
             }
             return tables[POWER_TABLE].at(flowMet(m, at, height)) * (100 - boats[m].worn()) / 100;
+        }
+
+        /** What POWER can't be above, whatever other MILLS come to lie ahead. */
+        int topPower(int m, int[] at, int height) {
+            if (!isBerth(at[m]) || !bears(at[m], m, height)) {
+                return 0;
+            }
+            int top = tables[POWER_TABLE].topUpTo(flowMet(m, at, height));
+            return top * (100 - boats[m].worn()) / 100;
         }
 
         int powerWithout(int m, int other, int height) {
@@ -1031,7 +1049,12 @@ public final class MillBoats {
             if (!cond()) {
                 return false;
             }
-            return closeBracket(']');
+            if (kind != ']') {
+                return refuse(1);
+            }
+            open--;
+            step();
+            return true;
         }
 
         private boolean comparison() {
@@ -1109,11 +1132,7 @@ public final class MillBoats {
             if (!sum()) {
                 return false;
             }
-            return closeBracket(')');
-        }
-
-        private boolean closeBracket(int sign) {
-            if (kind != sign) {
+            if (kind != ')') {
                 return refuse(1);
             }
             open--;
@@ -1554,6 +1573,9 @@ public final class MillBoats {
         private final int[] who = new int[PLAN_MILLS];
         private final int[][] choices = new int[PLAN_MILLS][CHOICES];
         private final int[] choiceSizes = new int[PLAN_MILLS];
+        // what the POWER of a choice, and of all choices from a level on, can't be above
+        private final int[][] choiceTops = new int[PLAN_MILLS][CHOICES];
+        private final int[] levelTops = new int[PLAN_MILLS + 1];
         private final int[] ways = new int[STRETCHES];
         private final int[] trial = new int[MILLS];
         private final int[] best = new int[MILLS];
@@ -1588,6 +1610,7 @@ public final class MillBoats {
             for (int i = 0; i < wanted; i++) {
                 listChoices(i, day, now, from, to);
             }
+            sumTops();
             bestSum = NONE;
             if (kept) {
                 tryMill(0);
@@ -1619,13 +1642,30 @@ public final class MillBoats {
                     boolean can = river.lyingAt(berth, trial) == NONE && river.bears(berth, m, height)
                             && (law.standing(m, berth, day, now) & 3) == 0;
                     if (can && n < CHOICES - 1) {
+                        trial[m] = berth;
                         choices[level][n] = berth;
+                        choiceTops[level][n] = river.topPower(m, trial, height);
+                        trial[m] = NONE;
                         n++;
                     }
                 }
             }
             choices[level][n] = NONE;
+            choiceTops[level][n] = 0;
             choiceSizes[level] = n + 1;
+        }
+
+        private void sumTops() {
+            int sum = 0;
+            levelTops[PLAN_MILLS] = 0;
+            for (int level = PLAN_MILLS - 1; level >= 0; level--) {
+                int top = 0;
+                for (int c = 0; level < wanted && c < choiceSizes[level]; c++) {
+                    top = Math.max(top, choiceTops[level][c]);
+                }
+                sum += top;
+                levelTops[level] = sum;
+            }
         }
 
         private void tryMill(int level) {
@@ -1633,8 +1673,14 @@ public final class MillBoats {
                 weigh();
                 return;
             }
+            int top = levelTops[level + 1];
+            for (int m = 0; m < river.size; m++) {
+                top += river.topPower(m, trial, height);
+            }
             for (int c = 0; c < choiceSizes[level]; c++) {
-                tryBerth(level, choices[level][c]);
+                if (top + choiceTops[level][c] > bestSum) {
+                    tryBerth(level, choices[level][c]);
+                }
             }
         }
 
