@@ -256,6 +256,10 @@ public final class BooksTest {
         fault("let a=[1];", 1, 6);
         fault("let a=1<2;", 1, 7);
         fault("toll 1 1 if 1=1;", 1, 7);
+        fault("toll way 1 if 1", 1, 5);
+        fault("toll 1 way 7", 1, 7);
+        fault("let way 7", 1, 4);
+        fault("way let lane", 1, 4);
         fault("toll lane of 2 if 1=1;", 1, 5);
         fault("toll 1 of lane if 1=1;", 1, 10);
         fault("toll 1 of 2;", 1, 11);
@@ -290,6 +294,9 @@ public final class BooksTest {
         fault("let a=1;forbid if [1=1 or a*(2+b)=1];", 3, 31);
         fault("forbid if nobody 1", 3, 10);
         fine("let a=1;let b=a+a;let ab=a*b;forbid if a=b and ab=1;", 4);
+        fine("let a=1;let aa=1;let aaa=1;let ba=1;let za=1;let az=1;forbid if a=aa and ba=za;", 7);
+        fine("let b=1;let ab=1;let bb=1;let z=1;let azz=1;let zzzzzzzz=1;", 6);
+        fault("let zzzzzzzz=1;let zzzzzzza=1;let zzzzzzz=zzzzzzzb;", 3, 42);
         fine("let lanes=lane;let lets=lanes;let iff=1;let notif=1;let abcdefgh=1;forbid if abcdefgh=lets;", 6);
     }
 
@@ -377,6 +384,8 @@ public final class BooksTest {
         Check.due("21 a product above", holds("9999*9999*9999=9999*9999*9999*9999"), true);
         Check.due("21 1000000000 itself", holds("1000*1000*1000=9999*9999*9999"), true);
         Check.due("21 one less", holds("1000*1000*1000-1<9999*9999*9999"), true);
+        Check.due("21 one less is not bounded", holds("1000*1000*1000-1=999*1000*1000+999*1000+999"), true);
+        Check.due("21 one more than the least", holds("0-1000*1000*1000+1=0-999*1000*1000-999*1000-999"), true);
         Check.due("21 a sum above", holds("9999*9999*9999+1=9999*9999*9999"), true);
         Check.due("21 and down again", holds("9999*9999*9999+1-1<9999*9999*9999"), true);
         Check.due("21 a difference below", holds("0-9999*9999*9999-1=0-9999*9999*9999"), true);
