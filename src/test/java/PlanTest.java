@@ -132,6 +132,10 @@ public final class PlanTest {
         Check.due("29 LANE 0, as LANE 1 takes from the other", x.planned(0), 1);
         x.moor(1, 12);
         Check.due("28 the SHADOW of the other", x.plan(0, 1, 1, 1), 41 + 40);
+        MillBoats z = river(2, 10, 20, 30, 40, 50, 400);
+        z.moor(1, 62);
+        Check.due("28 the last of 24 BERTHS is out of the SHADOW", z.plan(0, 1, 3, 6), 800);
+        Check.due("29 the last of 24 BERTHS", z.planned(0), 66);
         MillBoats y = river(3, 100, 10);
         Check.due("28 three in one LANE", y.plan(0, 7, 0, 3), 100 + 85 + 85);
         Check.due("29 0 first", y.planned(0), 0);
