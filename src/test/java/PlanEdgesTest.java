@@ -317,7 +317,8 @@ public final class PlanEdgesTest {
 
     /** TABLE 6 may have its most between: the best is found behind others of less, by FLOW that a SHADOW left. */
     private static void powerPeaksBetween() {
-        MillBoats x = river(2, 40, 20, 100);
+        // LANE 1 gives 30 to each: as much as LANE 2 by its ends
+        MillBoats x = river(2, 40, 200, 100);
         x.point(6, 20, 20);
         x.point(6, 84, 0);
         x.point(6, 85, 400);
@@ -328,7 +329,7 @@ public final class PlanEdgesTest {
         Check.due("28 the peak", x.plan(0, 3, 0, 1), 30 + 400);
         planned("the peak", x, 24, 25);
         Check.due("28 one alone", x.plan(0, 1, 0, 1), 30);
-        planned("one alone: FLOW 100", x, 24);
+        planned("one alone, FLOW 200 as good as 100", x, 12);
     }
 
     /** POWER at a FLOW of 0 or next to it may be the most. */
