@@ -46,20 +46,6 @@ public final class BooksEdgesTest {
         return all.toString();
     }
 
-    private static void fault(String text, int kind, int place) {
-        MillBoats x = new MillBoats();
-        Check.due("18 FAULT of " + text, Check.rules(x, 1, 0, text), -1 - kind);
-        Check.due("19 place in " + text, x.place(), place);
-        Check.due("18 no text of " + text, x.count(6), 0);
-    }
-
-    private static void fine(String text, int rules) {
-        MillBoats x = new MillBoats();
-        Check.due("18 RULES of " + text, Check.rules(x, 1, 0, text), rules);
-        Check.due("19 no place in " + text, x.place(), -1);
-        Check.due("18 a text of " + text, x.count(6), 1);
-    }
-
     /** "HEIGHT of a DAY is told at the DAY at hand, of any DAY": 0 and 999, on the DAY itself, ahead, behind. */
     private static void heightsOfTheFirstAndLastDay() {
         MillBoats x = new MillBoats();
@@ -135,33 +121,33 @@ public final class BooksEdgesTest {
     /** "TEXT (at most 400 bytes)": the TAPE full, to its last byte. */
     private static void tapeOf400() {
         String rule = "way 1 if 1=1;";
-        fine(repeated(" ", 400), 0);
-        fine(repeated("\n", 400 - 13) + rule, 1);
-        fine(rule + repeated(" ", 400 - 13), 1);
-        fault(repeated(" ", 400 - 12) + "way 1 if 1=1", 1, 400);
-        fine("forbid if 1" + repeated("+1", 386) + "=1;", 1);
-        fault("forbid if 1" + repeated("+1", 386) + "=11", 1, 400);
-        fault("forbid if 1" + repeated("+1", 386) + "=1+", 1, 400);
-        fine("let a=" + repeated("1*", 392) + "1;", 1);
-        fine("forbid if  " + repeated("not ", 384) + " 1=1;", 1);
-        fault(repeated("a", 400), 1, 0);
-        fault(repeated("7", 400), 1, 0);
-        fault("way " + repeated("1", 396), 1, 4);
-        fault("let " + repeated("a", 396), 1, 4);
-        fault("let a=" + repeated("(", 394), 4, 10);
-        fault("forbid if " + repeated("[", 390), 4, 14);
-        fault(repeated(" ", 399) + "#", 1, 399);
-        fault(repeated(rule, 20 * 13) + repeated(" ", 400 - 20 * 13 - 3) + "way", 4, 397);
+        BooksTest.fine(repeated(" ", 400), 0);
+        BooksTest.fine(repeated("\n", 400 - 13) + rule, 1);
+        BooksTest.fine(rule + repeated(" ", 400 - 13), 1);
+        BooksTest.fault(repeated(" ", 400 - 12) + "way 1 if 1=1", 1, 400);
+        BooksTest.fine("forbid if 1" + repeated("+1", 386) + "=1;", 1);
+        BooksTest.fault("forbid if 1" + repeated("+1", 386) + "=11", 1, 400);
+        BooksTest.fault("forbid if 1" + repeated("+1", 386) + "=1+", 1, 400);
+        BooksTest.fine("let a=" + repeated("1*", 392) + "1;", 1);
+        BooksTest.fine("forbid if  " + repeated("not ", 384) + " 1=1;", 1);
+        BooksTest.fault(repeated("a", 400), 1, 0);
+        BooksTest.fault(repeated("7", 400), 1, 0);
+        BooksTest.fault("way " + repeated("1", 396), 1, 4);
+        BooksTest.fault("let " + repeated("a", 396), 1, 4);
+        BooksTest.fault("let a=" + repeated("(", 394), 4, 10);
+        BooksTest.fault("forbid if " + repeated("[", 390), 4, 14);
+        BooksTest.fault(repeated(" ", 399) + "#", 1, 399);
+        BooksTest.fault(repeated(rule, 20 * 13) + repeated(" ", 400 - 20 * 13 - 3) + "way", 4, 397);
     }
 
     /** "1 a byte .. with which no text goes on", "blanks (32, 10)", "all other signs one by one". */
     private static void eachByteAlone() {
         for (int b = 0; b < 256; b++) {
             if (b == 32 || b == 10) {
-                fine("" + (char) b, 0);
+                BooksTest.fine("" + (char) b, 0);
             } else {
-                fault("" + (char) b, 1, 0);
-                fault(" \n" + (char) b, 1, 2);
+                BooksTest.fault("" + (char) b, 1, 0);
+                BooksTest.fault(" \n" + (char) b, 1, 2);
             }
         }
     }
@@ -170,23 +156,23 @@ public final class BooksEdgesTest {
         for (int b = 0; b < 256; b++) {
             String text = "way 1 if 1=1 " + (char) b;
             if (b == ';') {
-                fine(text, 1);
+                BooksTest.fine(text, 1);
             } else if (b == 32 || b == 10 || b == '+' || b == '-' || b == '*') {
-                fault(text, 1, 14);
+                BooksTest.fault(text, 1, 14);
             } else {
-                fault(text, 1, 13);
+                BooksTest.fault(text, 1, 13);
             }
             text = "way 1 if 1=" + (char) b + "1;";
             if (b == 32 || b == 10) {
-                fine(text, 1);
+                BooksTest.fine(text, 1);
             } else if (b >= '0' && b <= '9') {
-                fine(text, 1);
+                BooksTest.fine(text, 1);
             } else if (b >= 'a' && b <= 'z') {
-                fault(text, 3, 11);
+                BooksTest.fault(text, 3, 11);
             } else if (b == '(') {
-                fault(text, 1, 13);
+                BooksTest.fault(text, 1, 13);
             } else {
-                fault(text, 1, 11);
+                BooksTest.fault(text, 1, 11);
             }
         }
     }
@@ -197,71 +183,71 @@ public final class BooksEdgesTest {
         for (int n = 1; n <= 12; n++) {
             word += (char) ('a' + n % 26);
             if (n <= 8) {
-                fine("let " + word + "=1;forbid if " + word + "=1;", 2);
-                fault("let " + word, 1, 4 + n);
-                fault("forbid if 1=" + word + ";", 3, 12);
+                BooksTest.fine("let " + word + "=1;forbid if " + word + "=1;", 2);
+                BooksTest.fault("let " + word, 1, 4 + n);
+                BooksTest.fault("forbid if 1=" + word + ";", 3, 12);
             } else {
-                fault("let " + word + "=1;", 1, 4);
-                fault("forbid if " + word + "=1;", 1, 10);
-                fault("forbid if 1=" + word + ";", 1, 12);
-                fault(word, 1, 0);
-                fault("forbid if 1=1;" + word, 1, 14);
-                fault("forbid if 1=1" + word, 1, 13);
+                BooksTest.fault("let " + word + "=1;", 1, 4);
+                BooksTest.fault("forbid if " + word + "=1;", 1, 10);
+                BooksTest.fault("forbid if 1=" + word + ";", 1, 12);
+                BooksTest.fault(word, 1, 0);
+                BooksTest.fault("forbid if 1=1;" + word, 1, 14);
+                BooksTest.fault("forbid if 1=1" + word, 1, 13);
             }
         }
-        fine("let zzzzzzzz=1;let aaaaaaaa=zzzzzzzz;forbid if aaaaaaaa=1;", 3);
-        fault("forbidif 1=1;", 1, 0);
-        fault("forbid iflane=1;", 1, 7);
-        fault("forbid if lanestretch=1;", 1, 10);
-        fault("let a=1;let b=aa;", 3, 14);
-        fault("let aa=1;let b=a;", 3, 15);
-        fault("let abcdefgh=1;let b=abcdefg;", 3, 21);
+        BooksTest.fine("let zzzzzzzz=1;let aaaaaaaa=zzzzzzzz;forbid if aaaaaaaa=1;", 3);
+        BooksTest.fault("forbidif 1=1;", 1, 0);
+        BooksTest.fault("forbid iflane=1;", 1, 7);
+        BooksTest.fault("forbid if lanestretch=1;", 1, 10);
+        BooksTest.fault("let a=1;let b=aa;", 3, 14);
+        BooksTest.fault("let aa=1;let b=a;", 3, 15);
+        BooksTest.fault("let abcdefgh=1;let b=abcdefg;", 3, 21);
     }
 
     /** "NAMES: .. none of let, forbid, allow, toll, of, way, if, or, and, not". */
     private static void keywordsAreNoNames() {
         for (String word : KEYWORDS) {
-            fault("let " + word + "=1;", 1, 4);
-            fault("let a=" + word + ";", 1, 6);
-            fault("let a=1+" + word + ";", 1, 8);
-            fault("let a=2*(" + word + ");", 1, 9);
-            fault("forbid if 1<" + word + ";", 1, 12);
+            BooksTest.fault("let " + word + "=1;", 1, 4);
+            BooksTest.fault("let a=" + word + ";", 1, 6);
+            BooksTest.fault("let a=1+" + word + ";", 1, 8);
+            BooksTest.fault("let a=2*(" + word + ");", 1, 9);
+            BooksTest.fault("forbid if 1<" + word + ";", 1, 12);
             if (!word.equals("not")) {
-                fault("forbid if " + word + "=1;", 1, 10);
-                fault("forbid if not " + word + "=1;", 1, 14);
-                fault("forbid if [" + word + "=1];", 1, 11);
+                BooksTest.fault("forbid if " + word + "=1;", 1, 10);
+                BooksTest.fault("forbid if not " + word + "=1;", 1, 14);
+                BooksTest.fault("forbid if [" + word + "=1];", 1, 11);
             }
-            fault("toll 1 of " + word + " if 1=1;", 1, 10);
-            fault("way " + word + " if 1=1;", 1, 4);
-            fine("let " + word + "x=1;let x" + word + "=" + word + "x;forbid if x" + word + "=1;", 3);
+            BooksTest.fault("toll 1 of " + word + " if 1=1;", 1, 10);
+            BooksTest.fault("way " + word + " if 1=1;", 1, 4);
+            BooksTest.fine("let " + word + "x=1;let x" + word + "=" + word + "x;forbid if x" + word + "=1;", 3);
         }
         String[] notBegin = {"of", "if", "or", "and", "not", "lane", "a"};
         for (String word : notBegin) {
-            fault(word + " 1=1;", 1, 0);
-            fault("way 1 if 1=1;" + word, 1, 13);
+            BooksTest.fault(word + " 1=1;", 1, 0);
+            BooksTest.fault("way 1 if 1=1;" + word, 1, 13);
         }
     }
 
     /** "3 .. one in a let that there is": the nine, and one of a let. */
     private static void givenNamesAreTaken() {
         for (String name : GIVEN) {
-            fault("let " + name + "=1;", 3, 4);
-            fine("forbid if " + name + "=1;", 1);
-            fine("let a=" + name + ";", 1);
+            BooksTest.fault("let " + name + "=1;", 3, 4);
+            BooksTest.fine("forbid if " + name + "=1;", 1);
+            BooksTest.fine("let a=" + name + ";", 1);
             if (name.length() < 8) {
-                fine("let " + name + "s=1;let b=" + name + "s;", 2);
-                fault("forbid if " + name + "s=1;", 3, 10);
+                BooksTest.fine("let " + name + "s=1;let b=" + name + "s;", 2);
+                BooksTest.fault("forbid if " + name + "s=1;", 3, 10);
             }
-            fault("forbid if " + name.substring(1) + "=1;", 3, 10);
+            BooksTest.fault("forbid if " + name.substring(1) + "=1;", 3, 10);
         }
-        fault("let a=1;let a=2;", 3, 12);
-        fault("let a=1;let b=2;let a=3;", 3, 20);
-        fault("let a=a;", 3, 6);
-        fault("let a=1+a;", 3, 8);
-        fault("forbid if a=1;let a=1;", 3, 10);
-        fault("let b=a;let a=1;", 3, 6);
+        BooksTest.fault("let a=1;let a=2;", 3, 12);
+        BooksTest.fault("let a=1;let b=2;let a=3;", 3, 20);
+        BooksTest.fault("let a=a;", 3, 6);
+        BooksTest.fault("let a=1+a;", 3, 8);
+        BooksTest.fault("forbid if a=1;let a=1;", 3, 10);
+        BooksTest.fault("let b=a;let a=1;", 3, 6);
         // a NAME is there for all RULES behind its let, not for its own
-        fine("let a=1;let b=a;toll 1 of 2 if a=b;way 1 if a=1;allow if b=1;forbid if a+b*a=1;", 6);
+        BooksTest.fine("let a=1;let b=a;toll 1 of 2 if a=b;way 1 if a=1;allow if b=1;forbid if a+b*a=1;", 6);
     }
 
     /** "N: 1 to 4 figures", "more than 4 figures: at the first one", at each place of an N. */
@@ -270,42 +256,42 @@ public final class BooksEdgesTest {
         for (int length = 1; length <= 6; length++) {
             n += "1";
             if (length <= 4) {
-                fine("forbid if " + n + "=" + n + ";", 1);
-                fine("toll " + n + " of " + n + " if 1=1;", 1);
-                fine("way " + "0".repeat(length - 1) + "6 if 1=1;", 1);
-                fault("way " + "0".repeat(length - 1) + "7 if 1=1;", 2, 4);
+                BooksTest.fine("forbid if " + n + "=" + n + ";", 1);
+                BooksTest.fine("toll " + n + " of " + n + " if 1=1;", 1);
+                BooksTest.fine("way " + "0".repeat(length - 1) + "6 if 1=1;", 1);
+                BooksTest.fault("way " + "0".repeat(length - 1) + "7 if 1=1;", 2, 4);
             } else {
-                fault("forbid if " + n + "=1;", 1, 10);
-                fault("forbid if 1=" + n + ";", 1, 12);
-                fault("toll " + n + " of 9999 if 1=1;", 1, 5);
-                fault("toll 1 of " + n + " if 1=1;", 1, 10);
-                fault("way " + n + " if 1=1;", 1, 4);
-                fault("way " + "0".repeat(length - 1) + "6 if 1=1;", 1, 4);
+                BooksTest.fault("forbid if " + n + "=1;", 1, 10);
+                BooksTest.fault("forbid if 1=" + n + ";", 1, 12);
+                BooksTest.fault("toll " + n + " of 9999 if 1=1;", 1, 5);
+                BooksTest.fault("toll 1 of " + n + " if 1=1;", 1, 10);
+                BooksTest.fault("way " + n + " if 1=1;", 1, 4);
+                BooksTest.fault("way " + "0".repeat(length - 1) + "6 if 1=1;", 1, 4);
             }
         }
-        fine("toll 0000 of 0001 if 1=1;toll 9998 of 9999 if 1=1;toll 9999 of 9999 if 1=1;", 3);
-        fault("toll 0 of 0000 if 1=1;", 2, 10);
-        fault("toll 9999 of 9998 if 1=1;", 2, 13);
-        fault("toll 2 of 1 if 1=1;", 2, 10);
-        fault("toll 1 of 0 if 1=1;", 2, 10);
+        BooksTest.fine("toll 0000 of 0001 if 1=1;toll 9998 of 9999 if 1=1;toll 9999 of 9999 if 1=1;", 3);
+        BooksTest.fault("toll 0 of 0000 if 1=1;", 2, 10);
+        BooksTest.fault("toll 9999 of 9998 if 1=1;", 2, 13);
+        BooksTest.fault("toll 2 of 1 if 1=1;", 2, 10);
+        BooksTest.fault("toll 1 of 0 if 1=1;", 2, 10);
     }
 
     /** "TOKENS, blanks (32, 10) between where one likes": between, and not within. */
     private static void blanks() {
-        fine("let  a \n = ( 1 + 2 ) * 3 ; \n\n forbid \n if not [ a \n < 4 ] or 1 = 2 and 3 > 4 ; ", 2);
-        fine("let a=(1+2)*3;forbid if not[a<4]or 1=2and 3>4;", 2);
-        fine("toll 1of 2if 1=1;way 3if 1=1;allow if 1=1and 2=2or 3=3;", 3);
-        fault("for bid if 1=1;", 1, 0);
-        fault("forbid i f 1=1;", 1, 7);
-        fault("forbid if 1 1=11;", 1, 12);
-        fault("forbid if la ne=1;", 3, 10);
-        fault("forbid if lane 1=1;", 1, 15);
-        fault("forbid if lane1=1;", 1, 14);
-        fault("forbid if 1lane=1;", 1, 11);
-        fault("forbid if 1=1 an d 1=1;", 1, 14);
-        fault("way 1 0 if 1=1;", 1, 6);
-        fault("\tforbid if 1=1;", 1, 0);
-        fault("forbid if 1=1;\r", 1, 14);
+        BooksTest.fine("let  a \n = ( 1 + 2 ) * 3 ; \n\n forbid \n if not [ a \n < 4 ] or 1 = 2 and 3 > 4 ; ", 2);
+        BooksTest.fine("let a=(1+2)*3;forbid if not[a<4]or 1=2and 3>4;", 2);
+        BooksTest.fine("toll 1of 2if 1=1;way 3if 1=1;allow if 1=1and 2=2or 3=3;", 3);
+        BooksTest.fault("for bid if 1=1;", 1, 0);
+        BooksTest.fault("forbid i f 1=1;", 1, 7);
+        BooksTest.fault("forbid if 1 1=11;", 1, 12);
+        BooksTest.fault("forbid if la ne=1;", 3, 10);
+        BooksTest.fault("forbid if lane 1=1;", 1, 15);
+        BooksTest.fault("forbid if lane1=1;", 1, 14);
+        BooksTest.fault("forbid if 1lane=1;", 1, 11);
+        BooksTest.fault("forbid if 1=1 an d 1=1;", 1, 14);
+        BooksTest.fault("way 1 0 if 1=1;", 1, 6);
+        BooksTest.fault("\tforbid if 1=1;", 1, 0);
+        BooksTest.fault("forbid if 1=1;\r", 1, 14);
     }
 
     /** "a 5th bracket (of both sorts together) that is open at once". */
@@ -315,31 +301,31 @@ public final class BooksEdgesTest {
         for (int square = 0; square <= 4; square++) {
             String behind = "]".repeat(square);
             String cond = opened[square] + "1" + closed[square] + "=1" + behind;
-            fine("forbid if " + cond + " and " + cond + " or not " + cond + ";", 1);
-            fault("forbid if " + opened[square] + "(1", 4, 14);
-            fault("forbid if " + opened[square] + "1" + closed[square] + "=" + "(".repeat(4 - square) + "(1", 4,
-                    10 + 4 + 1 + (4 - square) + 1 + (4 - square));
+            BooksTest.fine("forbid if " + cond + " and " + cond + " or not " + cond + ";", 1);
+            BooksTest.fault("forbid if " + opened[square] + "(1", 4, 14);
+            String left = "forbid if " + opened[square] + "1" + closed[square] + "=" + "(".repeat(4 - square);
+            BooksTest.fault(left + "(1", 4, left.length());
             if (square == 4) {
-                fault("forbid if [[[[[1=1", 4, 14);
-                fault("forbid if [[[[not [1=1", 4, 18);
-                fault("forbid if [[[[1=1 and [1=1", 4, 22);
-                fault("forbid if [[[[1=1 or [1=1", 4, 21);
-                fine("forbid if [[[[1=1] and [1=1]]]];", 1);
+                BooksTest.fault("forbid if [[[[[1=1", 4, 14);
+                BooksTest.fault("forbid if [[[[not [1=1", 4, 18);
+                BooksTest.fault("forbid if [[[[1=1 and [1=1", 4, 22);
+                BooksTest.fault("forbid if [[[[1=1 or [1=1", 4, 21);
+                BooksTest.fine("forbid if [[[[1=1] and [1=1]]]];", 1);
             } else {
-                fault("forbid if " + opened[square] + "[1", 1, 14);
+                BooksTest.fault("forbid if " + opened[square] + "[1", 1, 14);
             }
-            fault("forbid if " + opened[square] + "1(", 1, 15);
-            fault("forbid if " + opened[square] + "1[", 1, 15);
+            BooksTest.fault("forbid if " + opened[square] + "1(", 1, 15);
+            BooksTest.fault("forbid if " + opened[square] + "1[", 1, 15);
         }
-        fine("let a=((((1))))+((((2))))*((((3))));", 1);
-        fault("let a=((((1+(2", 4, 12);
-        fine("let a=((1)+2)+(3*(4+(5*(6-7))));", 1);
-        fault("forbid if ((1)=1;", 1, 14);
-        fault("forbid if (1))=1;", 1, 13);
-        fault("forbid if [1=1;", 1, 14);
-        fault("forbid if [1=1]];", 1, 15);
-        fault("forbid if ()=1;", 1, 11);
-        fault("forbid if [];", 1, 11);
+        BooksTest.fine("let a=((((1))))+((((2))))*((((3))));", 1);
+        BooksTest.fault("let a=((((1+(2", 4, 12);
+        BooksTest.fine("let a=((1)+2)+(3*(4+(5*(6-7))));", 1);
+        BooksTest.fault("forbid if ((1)=1;", 1, 14);
+        BooksTest.fault("forbid if (1))=1;", 1, 13);
+        BooksTest.fault("forbid if [1=1;", 1, 14);
+        BooksTest.fault("forbid if [1=1]];", 1, 15);
+        BooksTest.fault("forbid if ()=1;", 1, 11);
+        BooksTest.fault("forbid if [];", 1, 11);
     }
 
     /** "4 as a 21st RULE begins". */
@@ -348,18 +334,18 @@ public final class BooksEdgesTest {
         String[] begins = {"way", "toll", "allow", "forbid", "let"};
         for (String rule : one) {
             String twenty = rule.repeat(20);
-            fine(twenty.substring(0, 19 * rule.length()), 19);
-            fine(twenty, 20);
+            BooksTest.fine(twenty.substring(0, 19 * rule.length()), 19);
+            BooksTest.fine(twenty, 20);
             for (String begin : begins) {
-                fault(twenty + begin, 4, twenty.length());
-                fault(twenty + "\n" + begin + " ;", 4, twenty.length() + 1);
+                BooksTest.fault(twenty + begin, 4, twenty.length());
+                BooksTest.fault(twenty + "\n" + begin + " ;", 4, twenty.length() + 1);
             }
-            fault(twenty + "way7", 4, twenty.length());
-            fault(twenty + "wayy", 1, twenty.length());
-            fault(twenty + "if", 1, twenty.length());
-            fault(twenty + "let1 ", 4, twenty.length());
-            fault(twenty + "!", 1, twenty.length());
-            fault(twenty.substring(0, twenty.length() - 1), 1, twenty.length() - 1);
+            BooksTest.fault(twenty + "way7", 4, twenty.length());
+            BooksTest.fault(twenty + "wayy", 1, twenty.length());
+            BooksTest.fault(twenty + "if", 1, twenty.length());
+            BooksTest.fault(twenty + "let1 ", 4, twenty.length());
+            BooksTest.fault(twenty + "!", 1, twenty.length());
+            BooksTest.fault(twenty.substring(0, twenty.length() - 1), 1, twenty.length() - 1);
         }
     }
 
@@ -370,57 +356,57 @@ public final class BooksEdgesTest {
             six += "let n" + (char) ('a' + n) + "=" + (n == 1 ? "1" : "n" + (char) ('a' + n - 1)) + ";";
         }
         int end = six.length();
-        fine(six, 6);
-        fine(six + "forbid if ng=1;allow if nb=1;", 8);
-        fault(six + "let nh=1;", 4, end + 4);
-        fault(six + "let   nh", 4, end + 6);
-        fault(six + "way 1 if 1=1;let nh=ng;", 4, end + 17);
-        fault(six + "let ng=1;", 3, end + 4);
-        fault(six + "let sacks=1;", 3, end + 4);
-        fault(six + "let allow=1;", 1, end + 4);
-        fault(six + "let 7=1;", 1, end + 4);
-        fault(six + "let abcdefghi=1;", 1, end + 4);
-        fault(six + "let ;", 1, end + 4);
-        fault(six + "let ", 1, end + 4);
+        BooksTest.fine(six, 6);
+        BooksTest.fine(six + "forbid if ng=1;allow if nb=1;", 8);
+        BooksTest.fault(six + "let nh=1;", 4, end + 4);
+        BooksTest.fault(six + "let   nh", 4, end + 6);
+        BooksTest.fault(six + "way 1 if 1=1;let nh=ng;", 4, end + 17);
+        BooksTest.fault(six + "let ng=1;", 3, end + 4);
+        BooksTest.fault(six + "let sacks=1;", 3, end + 4);
+        BooksTest.fault(six + "let allow=1;", 1, end + 4);
+        BooksTest.fault(six + "let 7=1;", 1, end + 4);
+        BooksTest.fault(six + "let abcdefghi=1;", 1, end + 4);
+        BooksTest.fault(six + "let ;", 1, end + 4);
+        BooksTest.fault(six + "let ", 1, end + 4);
     }
 
     /** "FAULTS, the first along the text": what comes behind it doesn't matter. */
     private static void firstAlongTheText() {
-        fault("way 7 if a=1;", 2, 4);
-        fault("forbid if a=1;way 7 if 1=1;", 3, 10);
-        fault("toll 2 of 1 iff 1=1;", 2, 10);
-        fault("forbid if (((((a", 4, 14);
-        fault("forbid if ((((a", 3, 14);
-        fault("forbid if 1=1 and a=1;", 3, 18);
-        fault("forbid if 1=1 or a=1;", 3, 17);
-        fault("forbid if 1=1 and 1=1 and [a=1];", 3, 27);
-        fault("forbid if not a=1;", 3, 14);
-        fault("forbid if 1+a=1;", 3, 12);
-        fault("forbid if 1*a=1;", 3, 12);
-        fault("forbid if 1=1*(2-a);", 3, 17);
-        fault("forbid if a b=1;", 3, 10);
-        fault("let a=1;let a=b;", 3, 12);
-        fault("let lane 1", 3, 4);
-        fault("toll 3 of 2 of 1", 2, 10);
-        fault("forbid if 1=1 #;way 7", 1, 14);
-        fault("way 6 if 1=1;way 7 if 1=1;way 8", 2, 17);
-        fault("forbid if 1=1 and [[[[[a=1", 4, 22);
-        fault("forbid if 1=1 or [[[[[a=1", 4, 21);
+        BooksTest.fault("way 7 if a=1;", 2, 4);
+        BooksTest.fault("forbid if a=1;way 7 if 1=1;", 3, 10);
+        BooksTest.fault("toll 2 of 1 iff 1=1;", 2, 10);
+        BooksTest.fault("forbid if (((((a", 4, 14);
+        BooksTest.fault("forbid if ((((a", 3, 14);
+        BooksTest.fault("forbid if 1=1 and a=1;", 3, 18);
+        BooksTest.fault("forbid if 1=1 or a=1;", 3, 17);
+        BooksTest.fault("forbid if 1=1 and 1=1 and [a=1];", 3, 27);
+        BooksTest.fault("forbid if not a=1;", 3, 14);
+        BooksTest.fault("forbid if 1+a=1;", 3, 12);
+        BooksTest.fault("forbid if 1*a=1;", 3, 12);
+        BooksTest.fault("forbid if 1=1*(2-a);", 3, 17);
+        BooksTest.fault("forbid if a b=1;", 3, 10);
+        BooksTest.fault("let a=1;let a=b;", 3, 12);
+        BooksTest.fault("let lane 1", 3, 4);
+        BooksTest.fault("toll 3 of 2 of 1", 2, 10);
+        BooksTest.fault("forbid if 1=1 #;way 7", 1, 14);
+        BooksTest.fault("way 6 if 1=1;way 7 if 1=1;way 8", 2, 17);
+        BooksTest.fault("forbid if 1=1 and [[[[[a=1", 4, 22);
+        BooksTest.fault("forbid if 1=1 or [[[[[a=1", 4, 21);
     }
 
     /** "of one place the least". */
     private static void leastOfOnePlace() {
         // 1 and 2: too many figures, and above 6 or too little
-        fault("way 77777", 1, 4);
-        fault("toll 9 of 00000", 1, 10);
+        BooksTest.fault("way 77777", 1, 4);
+        BooksTest.fault("toll 9 of 00000", 1, 10);
         // 1 and 3: a WORD of nine letters is no NAME that there isn't
-        fault("forbid if abcdefghi=1;", 1, 10);
+        BooksTest.fault("forbid if abcdefghi=1;", 1, 10);
         // 1 and 4
         String twenty = "way 1 if 1=1;".repeat(20);
-        fault(twenty + "lets", 1, 260);
-        fault("forbid if ((((1=(", 1, 15);
+        BooksTest.fault(twenty + "lets", 1, 260);
+        BooksTest.fault("forbid if ((((1=(", 1, 15);
         // 3 and 4
-        fault("let a=1;let b=1;let c=1;let d=1;let e=1;let f=1;let a=1;", 3, 52);
+        BooksTest.fault("let a=1;let b=1;let c=1;let d=1;let e=1;let f=1;let a=1;", 3, 52);
     }
 
     /** What one text had open, named and counted is no more there in the next. */
@@ -525,7 +511,8 @@ public final class BooksEdgesTest {
             "n+n=n", "n*2=n", "n*b=n", "b*n=n", "n*n=b", "b-n=b", "n-b=n", "b+n=0", "b+1-1=b-1", "b-1+1=b",
             "n+1-1=n", "n-1+1=n+1", "b+1+n=0", "n*2+b=0", "b*2-b=0", "(b-1)+1=b", "(b-1)+2=b", "b*0=0", "n*0=0",
             "b+(1-1)=b", "(0-1)*b=n", "(0-1)*n=b", "9999*9999=9998*(9999+1)+1",
-            "9999*9999*10=(9998*(9999+1)+1)*10", "9999*9999*11=b", "(0-9999)*9999*11=n", "n<0-b+1", "n=0-b", "not b-1=b", "not n+1=n"};
+            "9999*9999*10=(9998*(9999+1)+1)*10", "9999*9999*11=b", "(0-9999)*9999*11=n", "n<0-b+1", "n=0-b",
+            "not b-1=b", "not n+1=n"};
         for (String cond : hold) {
             Check.due("21 " + cond, holds(lets + cond + ";"), true);
         }

@@ -187,14 +187,14 @@ public final class BooksTest {
         }
     }
 
-    private static void fault(String text, int kind, int place) {
+    static void fault(String text, int kind, int place) {
         MillBoats x = new MillBoats();
         Check.due("18 FAULT of " + text, Check.rules(x, 0, 0, text), -1 - kind);
         Check.due("19 place in " + text, x.place(), place);
         Check.due("18 no text of " + text, x.count(5), 0);
     }
 
-    private static void fine(String text, int rules) {
+    static void fine(String text, int rules) {
         MillBoats x = new MillBoats();
         Check.due("18 RULES of " + text, Check.rules(x, 0, 0, text), rules);
         Check.due("19 no place in " + text, x.place(), -1);

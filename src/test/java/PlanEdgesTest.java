@@ -38,20 +38,6 @@ public final class PlanEdgesTest {
         Check.finish();
     }
 
-    /** Each LANE has a VALUE at any HEIGHT; POWER is FLOW; MILLS of DRAUGHT 1, WHEEL 20, CHAIN 2000. */
-    private static MillBoats river(int mills, int... values) {
-        MillBoats x = new MillBoats();
-        for (int t = 0; t < values.length; t++) {
-            x.point(t, 0, values[t]);
-        }
-        x.point(6, 0, 0);
-        x.point(6, 400, 400);
-        for (int m = 0; m < mills; m++) {
-            x.mill(1, 20, 2000);
-        }
-        return x;
-    }
-
     private static void planned(String what, MillBoats x, int... berths) {
         for (int m = 0; m < berths.length; m++) {
             Check.due("29 " + what + ": MILL " + m, x.planned(m), berths[m]);
@@ -71,7 +57,7 @@ public final class PlanEdgesTest {
 
     /** A DAY "(that at hand or later)", up to 999. */
     private static void daysOfAPlan() {
-        MillBoats x = river(1, 40);
+        MillBoats x = PlanTest.river(1, 40);
         x.height(998, 0);
         x.height(999, 9);
         Check.due("28 the first DAY", x.plan(0, 1, 0, 0), 40);
@@ -87,7 +73,7 @@ public final class PlanEdgesTest {
     /** "1 to 3 MILLS", as bits of those that there are. */
     private static void oneToThreeMills() {
         for (int mills = 0; mills <= 6; mills++) {
-            MillBoats x = river(mills, 10, 10, 10, 10, 10, 10);
+            MillBoats x = PlanTest.river(mills, 10, 10, 10, 10, 10, 10);
             for (int bits = -1; bits <= 64; bits++) {
                 int n = Integer.bitCount(bits);
                 boolean can = bits > 0 && bits < 1 << mills && n >= 1 && n <= 3;
@@ -98,7 +84,7 @@ public final class PlanEdgesTest {
 
     /** "STRETCHES from one to another (4 at most)". */
     private static void fourStretches() {
-        MillBoats x = river(1, 40);
+        MillBoats x = PlanTest.river(1, 40);
         for (int from = -1; from <= 12; from++) {
             for (int to = -1; to <= 12; to++) {
                 boolean can = from >= 0 && to <= 11 && from <= to && to - from <= 3;
@@ -112,7 +98,7 @@ public final class PlanEdgesTest {
 
     /** "no two at one": those of the PLAN, and one of the PLAN and another one. */
     private static void noTwoAtOne() {
-        MillBoats x = river(4, 90, 50, 40, 30);
+        MillBoats x = PlanTest.river(4, 90, 50, 40, 30);
         Check.due("28 three in one STRETCH", x.plan(0, 7, 6, 6), 90 + 50 + 40);
         planned("three", x, 6, 18, 30, -2);
         x.moor(3, 6);
@@ -125,7 +111,7 @@ public final class PlanEdgesTest {
 
     /** A BERTH where a MILL of the PLAN lies now is free for all of the PLAN. */
     private static void itsOwnBerthIsFree() {
-        MillBoats x = river(2, 90, 50);
+        MillBoats x = PlanTest.river(2, 90, 50);
         x.moor(0, 18);
         x.moor(1, 6);
         Check.due("28 both", x.plan(0, 3, 6, 6), 140);
@@ -140,7 +126,7 @@ public final class PlanEdgesTest {
     /** "each of these FLOATS": DEPTH of that DAY, DRAUGHT or more. */
     private static void floatsThere() {
         for (int bed = 10; bed <= 12; bed++) {
-            MillBoats x = river(0, 90, 50);
+            MillBoats x = PlanTest.river(0, 90, 50);
             x.mill(9, 20, 2000);
             x.height(0, 0);
             x.height(5, 20);
@@ -157,7 +143,7 @@ public final class PlanEdgesTest {
         for (int ice = 0; ice < 2; ice++) {
             int pull = ice == 0 ? 180 : 360;
             for (int chain = pull - 1; chain <= pull + 1; chain++) {
-                MillBoats x = river(0, 90, 50);
+                MillBoats x = PlanTest.river(0, 90, 50);
                 x.mill(1, 20, chain);
                 x.ice(7, ice == 1);
                 Check.due("28 CHAIN " + chain, x.plan(7, 1, 0, 0), chain < pull ? 50 : 90);
@@ -172,7 +158,7 @@ public final class PlanEdgesTest {
     private static void pullInShadow() {
         for (int chain = 169; chain <= 170; chain++) {
             // 100 less 15 by one right ahead: a PULL of 170; LANE 1 has but 20
-            MillBoats x = river(0, 100, 20);
+            MillBoats x = PlanTest.river(0, 100, 20);
             x.mill(1, 20, chain);
             x.mill(1, 20, 2000);
             boolean can = chain == 170;
@@ -180,7 +166,7 @@ public final class PlanEdgesTest {
             planned("behind the other one", x, can ? 1 : 12, 0);
         }
         // the one that comes ahead holds the other one's PULL low, but that one isn't of the PLAN
-        MillBoats y = river(1, 100, 99);
+        MillBoats y = PlanTest.river(1, 100, 99);
         y.mill(1, 20, 1);
         y.moor(1, 5);
         Check.due("28 the other one's PULL is above its CHAIN", y.plan(0, 1, 8, 8), 100 + 99);
@@ -189,7 +175,7 @@ public final class PlanEdgesTest {
 
     /** "all others lie as they do": they needn't FLOAT, be let there, nor hold. */
     private static void othersLieAsTheyDo() {
-        MillBoats x = river(1, 100, 40);
+        MillBoats x = PlanTest.river(1, 100, 40);
         x.mill(6, 90, 1);
         x.mill(1, 20, 1);
         x.moor(1, 0);
@@ -204,7 +190,7 @@ public final class PlanEdgesTest {
 
     /** "is not BARRED", by RULES of that DAY as known at the DAY at hand. */
     private static void notBarred() {
-        MillBoats x = river(1, 10, 20, 30, 40, 50, 60);
+        MillBoats x = PlanTest.river(1, 10, 20, 30, 40, 50, 60);
         Check.rules(x, 0, 0, "forbid if 1=1;");
         Check.due("28 LANE 4 and 5 are left", x.plan(0, 1, 0, 3), 60);
         Check.rules(x, 1, 3, "forbid if 1=1;");
@@ -222,7 +208,7 @@ public final class PlanEdgesTest {
     /** "the WAY of each of these STRETCHES is KEPT": the first, the last, and those between. */
     private static void wayOfEachStretch() {
         for (int s = 0; s < 12; s++) {
-            MillBoats x = river(2, 10, 10, 10, 10, 10, 60);
+            MillBoats x = PlanTest.river(2, 10, 10, 10, 10, 10, 60);
             x.moor(1, s);
             Check.rules(x, 0, 0, "way 6 if stretch=" + s + ";");
             for (int from = Math.max(0, s - 4); from <= Math.min(11, s + 1); from++) {
@@ -236,7 +222,7 @@ public final class PlanEdgesTest {
 
     /** A WAY that isn't KEPT right ahead of these STRETCHES or right behind them doesn't matter. */
     private static void wayOfOtherStretches() {
-        MillBoats x = river(1, 40);
+        MillBoats x = PlanTest.river(1, 40);
         Check.rules(x, 0, 0, "way 6 if stretch<3 or stretch>6;");
         x.bed(2, 4);
         x.bed(7, 4);
@@ -251,7 +237,7 @@ public final class PlanEdgesTest {
     private static void wayOfSix() {
         int[] due = {180, 180, 180, 180, 120, 60, 0};
         for (int n = 0; n <= 6; n++) {
-            MillBoats x = river(3, 60, 60, 60, 60, 60, 60);
+            MillBoats x = PlanTest.river(3, 60, 60, 60, 60, 60, 60);
             Check.rules(x, 1, 0, "way " + n + " if 1=1;");
             Check.due("28 WAY " + n, x.plan(0, 7, 4, 4), due[n]);
             planned("WAY " + n, x, n <= 5 ? 4 : -1, n <= 4 ? 16 : -1, n <= 3 ? 28 : -1);
@@ -268,7 +254,7 @@ public final class PlanEdgesTest {
     /** "the greatest sum of POWER of all MILLS": also of those that aren't in the PLAN. */
     private static void greatestSum() {
         // 1 lies behind: the best place for 0 alone takes more from 1 than the next one costs
-        MillBoats x = river(2, 100, 90);
+        MillBoats x = PlanTest.river(2, 100, 90);
         x.moor(1, 3);
         Check.due("28 all together", x.plan(0, 1, 2, 2), 90 + 100);
         planned("LANE 1", x, 14, -2);
@@ -279,7 +265,7 @@ public final class PlanEdgesTest {
         Check.due("28 more in LANE 0", x.plan(0, 1, 2, 2), 100 + 85);
         planned("LANE 0", x, 2, -2);
         // ASHORE is best where it would take more than it has
-        MillBoats y = river(0, 100);
+        MillBoats y = PlanTest.river(0, 100);
         y.mill(1, 90, 2000);
         y.mill(1, 20, 2000);
         y.mill(1, 20, 2000);
@@ -298,7 +284,7 @@ public final class PlanEdgesTest {
 
     /** "POWER .. less WORN": one that is WORN leaves the best BERTH to the other, though that is behind in number. */
     private static void wornGivesWay() {
-        MillBoats x = river(2, 100, 10);
+        MillBoats x = PlanTest.river(2, 100, 10);
         x.moor(0, 0);
         x.skiffs(0, 20);
         x.order(0, 250);
@@ -318,7 +304,7 @@ public final class PlanEdgesTest {
     /** TABLE 6 may have its most between: the best is found behind others of less, by FLOW that a SHADOW left. */
     private static void powerPeaksBetween() {
         // LANE 1 gives 30 to each: as much as LANE 2 by its ends
-        MillBoats x = river(2, 40, 200, 100);
+        MillBoats x = PlanTest.river(2, 40, 200, 100);
         x.point(6, 20, 20);
         x.point(6, 84, 0);
         x.point(6, 85, 400);
@@ -358,7 +344,7 @@ public final class PlanEdgesTest {
     /** "of these the first, MILL by MILL: the lesser BERTH first". */
     private static void firstMillByMill() {
         // 12 is as good as 1, and 0 for MILL 0 leaves 1 or 12 to MILL 1
-        MillBoats x = river(3, 40, 34);
+        MillBoats x = PlanTest.river(3, 40, 34);
         Check.due("28 two in LANES 0 and 1", x.plan(0, 3, 0, 1), 40 + 34);
         planned("the lesser BERTH of MILL 1", x, 0, 1);
         // MILL 0 may not be at the least BERTH
@@ -368,7 +354,7 @@ public final class PlanEdgesTest {
         Check.due("28 three", x.plan(0, 7, 0, 1), 40 + 34 + 34);
         planned("three", x, 1, 0, 12);
         // number by number, not by where they lie now
-        MillBoats y = river(6, 50, 50, 50);
+        MillBoats y = PlanTest.river(6, 50, 50, 50);
         y.moor(5, 0);
         y.moor(3, 12);
         Check.due("28 MILLS 1, 3 and 5", y.plan(0, 2 + 8 + 32, 0, 0), 150);
@@ -377,13 +363,13 @@ public final class PlanEdgesTest {
 
     /** "ASHORE behind all": of the same sum a BERTH, also the last of all, comes first. */
     private static void ashoreBehindAll() {
-        MillBoats x = river(2, 40);
+        MillBoats x = PlanTest.river(2, 40);
         Check.rules(x, 0, 0, "forbid if mill=0;");
         Check.rules(x, 1, 0, "forbid if mill=0 and not [lane=5 and stretch=11];");
         Check.due("28 POWER 0 at the last BERTH", x.plan(0, 3, 8, 11), 40);
         planned("the last BERTH", x, 71, 8);
         // MILL 0 ASHORE and MILL 1 at a BERTH is behind MILL 0 at a BERTH and MILL 1 ASHORE
-        MillBoats y = river(2, 40, 40, 40, 40, 40, 40);
+        MillBoats y = PlanTest.river(2, 40, 40, 40, 40, 40, 40);
         Check.rules(y, 0, 0, "way 5 if 1=1;");
         Check.due("28 one alone may lie there", y.plan(0, 3, 2, 2), 40);
         planned("MILL 0 there", y, 2, -1);
@@ -410,7 +396,7 @@ public final class PlanEdgesTest {
 
     /** "NONE: no such ones (the latest PLAN stays); none can be (there is no PLAN then)". */
     private static void latestPlan() {
-        MillBoats x = river(3, 40, 30);
+        MillBoats x = PlanTest.river(3, 40, 30);
         x.plan(0, 5, 2, 2);
         int[][] wrong = {{-1, 5, 2, 2}, {1000, 5, 2, 2}, {0, 0, 2, 2}, {0, 8, 2, 2}, {0, 5, 3, 2}, {0, 5, 2, 6},
             {0, 5, -1, 2}, {0, 5, 11, 12}};
@@ -437,7 +423,7 @@ public final class PlanEdgesTest {
         int[][] ways = {{0, 71, 16}, {71, 0, 16}, {11, 12, 12}, {12, 11, 12}, {60, 59, 12}, {5, 65, 5}, {65, 5, 5},
             {24, 35, 11}, {35, 24, 11}, {30, 31, 1}, {31, 30, 1}, {30, 42, 1}, {42, 30, 1}, {30, 43, 2}, {0, 61, 6}};
         for (int[] w : ways) {
-            MillBoats x = river(1, 10, 10, 10, 10, 10, 10);
+            MillBoats x = PlanTest.river(1, 10, 10, 10, 10, 10, 10);
             Check.rules(x, 0, 0, "forbid if not 12*lane+stretch=" + w[1] + ";");
             Check.rules(x, 1, 0, "forbid if not 12*lane+stretch=" + w[1] + ";");
             Check.due("28 from " + w[0] + " to " + w[1], x.plan(0, 1, w[1] % 12, w[1] % 12), 10);
@@ -451,7 +437,7 @@ public final class PlanEdgesTest {
 
     /** "comes in .. goes out, at any BERTH of LANE 0 or 5", in any STRETCH. */
     private static void inAndOutAnywhere() {
-        MillBoats x = river(1, 0, 0, 10);
+        MillBoats x = PlanTest.river(1, 0, 0, 10);
         Check.due("28 LANE 2, STRETCH 6", x.plan(0, 1, 6, 6), 10);
         moves("LANE 0 beside it", x, 0, 3);
         for (int s = 0; s < 12; s++) {
@@ -464,7 +450,7 @@ public final class PlanEdgesTest {
         moves("in at BERTH 71: 1, 3 and 5 STEPS", x, 0, 9);
         x.bed(71, 5);
         Check.due("30 nowhere to come in", x.moves(), -2);
-        MillBoats y = river(1);
+        MillBoats y = PlanTest.river(1);
         Check.rules(y, 0, 0, "way 6 if stretch=6;");
         Check.due("28 to be ASHORE", y.plan(0, 1, 6, 6), 0);
         y.moor(0, 30);
@@ -504,7 +490,7 @@ public final class PlanEdgesTest {
             }
         }
         // one that lies there needs no DEPTH
-        MillBoats y = river(1, 10);
+        MillBoats y = PlanTest.river(1, 10);
         y.plan(0, 1, 4, 4);
         y.moor(0, 4);
         y.bed(4, 20);
@@ -513,7 +499,7 @@ public final class PlanEdgesTest {
 
     /** "(at the HEIGHT of the DAY at hand, as known then ..)". */
     private static void depthOfTheDayAtHand() {
-        MillBoats x = river(0, 10);
+        MillBoats x = PlanTest.river(0, 10);
         x.mill(4, 20, 2000);
         x.height(1, 3);
         x.height(2, 4);
@@ -532,7 +518,7 @@ public final class PlanEdgesTest {
 
     /** "without other MILLS as they lie then". */
     private static void othersOnTheWay() {
-        MillBoats x = river(6, 10, 10);
+        MillBoats x = PlanTest.river(6, 10, 10);
         Check.due("28 MILL 0", x.plan(0, 1, 0, 0), 10);
         x.moor(0, 4);
         moves("straight", x, 0, 4);
@@ -559,7 +545,7 @@ public final class PlanEdgesTest {
 
     /** The second MOVE is told by itself, from ASHORE or from a BERTH, behind one from elsewhere. */
     private static void stepsOfASecondMove() {
-        MillBoats x = river(3, 50, 40, 30);
+        MillBoats x = PlanTest.river(3, 50, 40, 30);
         Check.due("28 three", x.plan(0, 7, 6, 6), 120);
         planned("three", x, 6, 18, 30);
         x.moor(0, 42);
@@ -577,7 +563,7 @@ public final class PlanEdgesTest {
 
     /** "The order: of all in which each can go the first, compared MOVE by MOVE by MILLS." */
     private static void firstOrder() {
-        MillBoats x = river(3, 50, 40, 30);
+        MillBoats x = PlanTest.river(3, 50, 40, 30);
         x.plan(0, 7, 6, 6);
         // 2 lies where 1 is to lie, 1 where 0 is to lie
         x.moor(0, 0);
@@ -605,7 +591,7 @@ public final class PlanEdgesTest {
 
     /** "each once": two that lie where the other is to lie can't; one that isn't of the PLAN never goes. */
     private static void eachOnce() {
-        MillBoats x = river(4, 50, 40, 30);
+        MillBoats x = PlanTest.river(4, 50, 40, 30);
         x.plan(0, 7, 6, 6);
         x.moor(0, 18);
         x.moor(1, 6);
@@ -634,7 +620,7 @@ public final class PlanEdgesTest {
 
     /** "-2: .. a MILL of it is GONE". */
     private static void goneFromThePlan() {
-        MillBoats x = river(2, 0, 0, 0, 0, 0, 100);
+        MillBoats x = PlanTest.river(2, 0, 0, 0, 0, 0, 100);
         Check.due("28 a PLAN of both", x.plan(0, 3, 0, 0), 100);
         x.moor(1, 71);
         x.mill(1, 20, 1);
@@ -647,7 +633,7 @@ public final class PlanEdgesTest {
         Check.due("28 MILL 2 is GONE, with others", x.plan(1, 7, 0, 0), -1);
         Check.due("30 the latest PLAN stays", x.moves(), 2);
         for (int gone = 0; gone < 2; gone++) {
-            MillBoats y = river(0, 0, 0, 0, 0, 0, 100);
+            MillBoats y = PlanTest.river(0, 0, 0, 0, 0, 0, 100);
             y.mill(1, 20, gone == 0 ? 150 : 2000);
             y.mill(1, 20, gone == 1 ? 150 : 2000);
             Check.rules(y, 1, 0, "way 6 if stretch=0;");
@@ -664,7 +650,7 @@ public final class PlanEdgesTest {
             Check.due("33 it stays GONE", y.millOf(gone, 0), -2);
         }
         // the first MILL GONE, asked for by bit 0
-        MillBoats z = river(0, 0, 0, 0, 0, 0, 100);
+        MillBoats z = PlanTest.river(0, 0, 0, 0, 0, 0, 100);
         z.mill(1, 20, 1);
         z.mill(1, 20, 2000);
         z.moor(0, 71);
@@ -676,7 +662,7 @@ public final class PlanEdgesTest {
 
     /** "The MOVES are done: how many (the PLAN stays)." */
     private static void goesAndStays() {
-        MillBoats x = river(4, 50, 40, 30);
+        MillBoats x = PlanTest.river(4, 50, 40, 30);
         x.plan(0, 7, 6, 6);
         x.moor(3, 40);
         for (int away = 0; away <= 3; away++) {

@@ -23,7 +23,7 @@ public final class PlanTest {
     }
 
     /** Each LANE has a VALUE at any HEIGHT; POWER is FLOW; MILLS of DRAUGHT 1, WHEEL 20, CHAIN 2000. */
-    private static MillBoats river(int mills, int... values) {
+    static MillBoats river(int mills, int... values) {
         MillBoats x = new MillBoats();
         for (int t = 0; t < values.length; t++) {
             x.point(t, 0, values[t]);
