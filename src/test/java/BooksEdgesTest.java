@@ -28,6 +28,7 @@ public final class BooksEdgesTest {
         faultChangesNothing();
         twelveOfEachShore();
         inForceFromADay();
+        wordsInTwoTimes();
         bounds();
         lastWordOfTwenty();
         lanesWithASay();
@@ -502,6 +503,28 @@ public final class BooksEdgesTest {
         MillBoats x = new MillBoats();
         Check.due("18 " + cond, Check.rules(x, 0, 0, cond), 4);
         return x.way(0, 0, 0) == 6;
+    }
+
+    /** A SHORE's WORD on DAY d as known on DAY k: by the text in force then, and by the HEIGHT of then. */
+    private static void wordsInTwoTimes() {
+        MillBoats x = new MillBoats();
+        x.mill(1, 1, 1);
+        Check.rules(x, 1, 0, "forbid if 1=1;");
+        Check.rules(x, 1, 5, "way 1 if 1=1;allow if height=5;");
+        x.day();
+        Check.rules(x, 1, 5, "way 1 if 1=1;let a=1;forbid if height=5;allow if height=9;");
+        x.height(4, 9);
+        x.day();
+        x.height(5, 5);
+        int[][] due = {{0, 0, 1, 1}, {0, 0, 3, 3}, {0, 0, 2, 2}};
+        int[][] stands = {{2, 2, 0, 0}, {2, 2, 0, 0}, {2, 2, 2, 2}};
+        int[] days = {0, 4, 5, 999};
+        for (int k = 0; k < 3; k++) {
+            for (int i = 0; i < 4; i++) {
+                Check.due("21 DAY " + days[i] + " as known on DAY " + k, x.word(1, 0, 71, days[i], k), due[k][i]);
+                Check.due("20 DAY " + days[i] + " as known on DAY " + k, x.barred(0, 71, days[i], k), stands[k][i]);
+            }
+        }
     }
 
     /** "each sum, difference, product above 1000000000 is that, below -1000000000 likewise". */

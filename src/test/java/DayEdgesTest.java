@@ -6,6 +6,7 @@ public final class DayEdgesTest {
     public static void main(String[] args) {
         breaksAboveItsChain();
         breaksByThatDay();
+        driftsByThatDay();
         whoDoesNotBreak();
         lanesOfOneValue();
         lanesOfNoValue();
@@ -23,6 +24,7 @@ public final class DayEdgesTest {
         rowsThatAreLeft();
         ordersOfEachSize();
         powerOfOne();
+        powerByThatDay();
         powerAsTheDayBegins();
         turnOfEachDay();
         turnPassesOn();
@@ -31,6 +33,7 @@ public final class DayEdgesTest {
         tollBySixteen();
         tollLeastAndMost();
         tollOfTheOrdersShore();
+        tollOfThatDay();
         sacksOnlyForATOLL();
         lastSackOfAnOrder();
         countsOfThoseGone();
@@ -144,6 +147,50 @@ public final class DayEdgesTest {
         events(y, 0, 0);
         y.day();
         events(y, 0, 3, breaks(0, 11), gone(0));
+    }
+
+    /** VALUE, DEPTH and PULL as it drifts "by HEIGHT .. of that DAY". */
+    private static void driftsByThatDay() {
+        // LANE 0 has more at HEIGHT 5, LANE 1 at HEIGHT 9; BEDS of 8 leave a DEPTH of 1 at HEIGHT 9
+        MillBoats x = new MillBoats();
+        x.point(0, 5, 100);
+        x.point(0, 9, 60);
+        x.point(1, 5, 50);
+        x.point(1, 9, 80);
+        x.mill(1, 20, 1);
+        x.moor(0, 10);
+        // HIT at HEIGHT 9 by 120 with a PULL of 160 of its own; at HEIGHT 5 it would have 100
+        laid(x, 279, 23);
+        for (int lane = 0; lane < 6; lane++) {
+            x.bed(lane * 12 + 11, 8);
+        }
+        x.height(0, 9);
+        x.day();
+        events(x, 0, 0, breaks(0, 10), hit(1, 0, 23), gone(1), gone(0));
+        MillBoats y = new MillBoats();
+        y.point(0, 5, 100);
+        y.point(0, 9, 60);
+        laid(y, 1, 9);
+        y.mill(1, 20, 240);
+        y.moor(1, 10);
+        y.height(0, 9);
+        y.day();
+        // (60 - 9) * 2 and 120 are 222, at HEIGHT 5 they would be 290
+        events(y, 0, 0, breaks(0, 9), caught(0, 1, 9));
+        MillBoats z = new MillBoats();
+        z.point(0, 0, 100);
+        z.mill(3, 20, 1);
+        z.moor(0, 10);
+        z.bed(11, 3);
+        z.bed(23, 3);
+        z.height(0, 5);
+        z.height(0, 4);
+        z.day();
+        // DEPTH 1 in STRETCH 11 at HEIGHT 4, 2 at HEIGHT 5
+        events(z, 0, 0, breaks(0, 10), aground(0, 10));
+        z.height(1, 6);
+        z.day();
+        Check.due("27 GONE at HEIGHT 6", z.event(3, 1), 5);
     }
 
     /** "one that lies at a BERTH": not one ASHORE, GONE, or that doesn't FLOAT. */
@@ -544,6 +591,42 @@ public final class DayEdgesTest {
         }
     }
 
+    /** GRIST "by HEIGHT .. of that DAY as known on it": FLOW MET and DEPTH. */
+    private static void powerByThatDay() {
+        MillBoats x = new MillBoats();
+        x.point(0, 0, 0);
+        x.point(0, 20, 20);
+        x.point(6, 0, 0);
+        x.point(6, 20, 20);
+        x.mill(4, 20, 2000);
+        x.moor(0, 0);
+        x.skiffs(0, 20);
+        x.order(0, 500);
+        x.height(0, 4);
+        x.height(1, 3);
+        x.height(2, 20);
+        x.day();
+        Check.due("26 HEIGHT 4, DEPTH is DRAUGHT", x.millOf(0, 5), 4);
+        x.day();
+        Check.due("26 HEIGHT 3, it doesn't FLOAT", x.millOf(0, 5), 4);
+        x.height(2, 7);
+        x.day();
+        Check.due("26 HEIGHT 7 as known on that DAY", x.millOf(0, 5), 4 + 7);
+        x.dress(0);
+        x.day();
+        x.height(4, 20);
+        x.day();
+        Check.due("26 HEIGHT 20", x.millOf(0, 5), 4 + 7 + 20);
+        x.height(4, 1);
+        x.dress(0);
+        x.day();
+        x.height(7, 9);
+        x.day();
+        Check.due("26 HEIGHT 1 of DAY 4, told behind it, on DAY 6", x.millOf(0, 5), 4 + 7 + 20);
+        x.day();
+        Check.due("26 HEIGHT 9 of DAY 7", x.millOf(0, 5), 4 + 7 + 20 + 9);
+    }
+
     /** "(as the DAY begins)": what a MILL grinds on a DAY takes no POWER on that DAY. */
     private static void powerAsTheDayBegins() {
         MillBoats x = river(100);
@@ -717,6 +800,27 @@ public final class DayEdgesTest {
         Check.rules(y, 0, 0, "toll 1 of 2 if 1=1;toll 1 of 3 if lane=5;");
         y.day();
         Check.due("34 the last that holds, where SHORE 0 has no say", y.orderOf(0, 3), 10);
+    }
+
+    /** TOLL by the RULES in force on that DAY. */
+    private static void tollOfThatDay() {
+        MillBoats x = river(40);
+        laid(x, 2000, 0);
+        x.skiffs(0, 20);
+        Check.rules(x, 0, 1, "toll 1 of 2 if 1=1;");
+        Check.rules(x, 0, 2, "toll 1 of 4 if day=2;");
+        int[] due = {1, 10, 5, 1};
+        int sum = 0;
+        for (int d = 0; d < 4; d++) {
+            x.order(0, 20);
+            x.day();
+            sum += due[d];
+            Check.due("33 TOLLS on DAY " + d, x.millOf(0, 6), sum);
+        }
+        Check.rules(x, 0, 3, "toll 1 of 1 if 1=1;");
+        x.order(0, 20);
+        x.day();
+        Check.due("33 TOLLS by what was told on DAY 4 from DAY 3 on", x.millOf(0, 6), sum + 20);
     }
 
     /** "sacks (0 but for a TOLL)": also for a MILL behind one that gave a TOLL, and for a let. */

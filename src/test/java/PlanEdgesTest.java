@@ -11,6 +11,7 @@ public final class PlanEdgesTest {
         itsOwnBerthIsFree();
         floatsThere();
         pullOfItsChain();
+        pullOfThatDay();
         pullInShadow();
         othersLieAsTheyDo();
         notBarred();
@@ -152,6 +153,31 @@ public final class PlanEdgesTest {
                 Check.due("28 without ICE on DAY 8", x.plan(8, 1, 0, 0), chain < 180 ? 50 : 90);
             }
         }
+    }
+
+    /** PULL by the HEIGHT of that DAY, and its ICE, as known at the DAY at hand. */
+    private static void pullOfThatDay() {
+        MillBoats x = new MillBoats();
+        x.point(0, 5, 60);
+        x.point(0, 9, 100);
+        x.point(1, 5, 50);
+        x.point(6, 0, 0);
+        x.point(6, 400, 400);
+        x.mill(1, 20, 199);
+        x.height(3, 9);
+        x.height(4, 5);
+        Check.due("28 DAY 2, HEIGHT 5: 120 of 199", x.plan(2, 1, 0, 0), 60);
+        Check.due("28 DAY 3, HEIGHT 9: 200 of 199", x.plan(3, 1, 0, 0), 50);
+        planned("DAY 3", x, 12);
+        x.day();
+        x.ice(4, true);
+        Check.due("28 DAY 4, ICE as known on DAY 1: 200 of 199", x.plan(4, 1, 0, 0), 0);
+        planned("DAY 4, LANE 2", x, 24);
+        Check.due("28 DAY 5, no ICE", x.plan(5, 1, 0, 0), 60);
+        x.ice(4, false);
+        Check.due("28 DAY 4, no more ICE", x.plan(4, 1, 0, 0), 60);
+        x.height(3, 8);
+        Check.due("28 DAY 3, HEIGHT 8 as known on DAY 1: 180 of 199", x.plan(3, 1, 0, 0), 90);
     }
 
     /** PULL by FLOW MET as all lie by the PLAN. */
