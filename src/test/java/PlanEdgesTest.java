@@ -21,6 +21,7 @@ public final class PlanEdgesTest {
         greatestSum();
         wornGivesWay();
         powerPeaksBetween();
+        powerOfEightPoints();
         powerOfNoFlow();
         firstMillByMill();
         ashoreBehindAll();
@@ -36,6 +37,7 @@ public final class PlanEdgesTest {
         eachOnce();
         goneFromThePlan();
         goesAndStays();
+        goesByTheLatestPlan();
         Check.finish();
     }
 
@@ -342,6 +344,23 @@ public final class PlanEdgesTest {
         planned("the peak", x, 24, 25);
         Check.due("28 one alone", x.plan(0, 1, 0, 1), 30);
         planned("one alone, FLOW 200 as good as 100", x, 12);
+    }
+
+    /** TABLE 6 with all of its eight POINTS, and FLOW behind them all. */
+    private static void powerOfEightPoints() {
+        MillBoats x = new MillBoats();
+        x.point(0, 0, 350);
+        x.point(1, 0, 400);
+        for (int i = 0; i < 8; i++) {
+            Check.due("3 POINT " + i, x.point(6, 40 * i, 10 * i), true);
+        }
+        x.mill(1, 20, 2000);
+        x.mill(1, 20, 2000);
+        Check.due("28 both behind the last POINT", x.plan(0, 3, 0, 0), 140);
+        planned("both", x, 0, 12);
+        x.point(6, 280, 5);
+        Check.due("28 the last POINT is less", x.plan(0, 3, 0, 0), 10);
+        planned("both still", x, 0, 12);
     }
 
     /** POWER at a FLOW of 0 or next to it may be the most. */
@@ -684,6 +703,24 @@ public final class PlanEdgesTest {
         Check.due("28 MILL 0 is GONE", z.plan(1, 1, 0, 0), -1);
         Check.due("28 MILL 0 is GONE, with another one", z.plan(1, 3, 0, 0), -1);
         Check.due("28 the other one alone", z.plan(1, 2, 0, 0), 100);
+    }
+
+    /** Those that another PLAN moved lie as they do. */
+    private static void goesByTheLatestPlan() {
+        MillBoats x = PlanTest.river(3, 50, 40, 30);
+        x.plan(0, 7, 6, 6);
+        Check.due("32 by the first PLAN", x.go(), 3);
+        Check.due("28 another PLAN", x.plan(0, 1, 9, 9), 50 + 40 + 30);
+        planned("MILL 0 alone", x, 9, -2, -2);
+        x.moor(1, 40);
+        x.moor(2, -1);
+        moves("MILL 0 alone", x, 0, 3);
+        Check.due("32 by the latest PLAN", x.go(), 1);
+        Check.due("33 MILL 0", x.millOf(0, 0), 9);
+        Check.due("33 MILL 1 stays", x.millOf(1, 0), 40);
+        Check.due("33 MILL 2 stays", x.millOf(2, 0), -1);
+        Check.due("32 none is left", x.go(), 0);
+        Check.due("33 MILL 1 stays", x.millOf(1, 0), 40);
     }
 
     /** "The MOVES are done: how many (the PLAN stays)." */
